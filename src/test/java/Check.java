@@ -1,0 +1,69 @@
+import java.util.concurrent.Callable;
+
+/** Compares answers with those that are due, and ends a test's run. */
+final class Check {
+    private static int wrong = 0;
+
+    private Check() {
+    }
+
+    static void due(String call, Object got, Object want) {
+        if (!got.equals(want)) {
+            wrong++;
+            System.out.println(call + " answered " + got + ", due is " + want);
+        }
+    }
+
+    static void dueThrow(String call, Class<? extends Exception> want, Callable<?> body) {
+        String got;
+        try {
+            got = String.valueOf(body.call());
+        } catch (Exception e) {
+            got = e.getClass().getName();
+        }
+        due(call, got, want.getName());
+    }
+
+    static void end() {
+        if (wrong > 0) {
+            System.out.println(wrong + " answers are wrong");
+            System.exit(1);
+        }
+    }
+
+    static void type(ShortTrees x, String text) {
+        for (int i = 0; i < text.length(); i++) {
+            x.type(text.charAt(i));
+        }
+    }
+
+    static int table(ShortTrees x, String text) {
+        type(x, text);
+        return x.table();
+    }
+
+    /** A new object with a table. */
+    static ShortTrees of(String text) {
+        ShortTrees x = new ShortTrees();
+        if (table(x, text) < 0) {
+            throw new IllegalArgumentException(text);
+        }
+        return x;
+    }
+
+    static String written(ShortTrees x, int size) {
+        StringBuilder all = new StringBuilder();
+        for (int i = 0; i < size; i++) {
+            all.append(x.written(i));
+        }
+        return all.toString();
+    }
+
+    static String write(ShortTrees x, int tree) {
+        return written(x, x.write(tree));
+    }
+
+    static String common(ShortTrees x, float above) {
+        return written(x, x.common(above));
+    }
+}
