@@ -7,6 +7,7 @@ public final class TableTest {
         faults();
         faultChangesNothing();
         tableForgets();
+        tablesInTurn();
         states();
         Check.end();
     }
@@ -105,6 +106,23 @@ public final class TableTest {
         Check.due("the weight after table() again", x.weigh(0, 3), 1);
         Check.due("trees() of two kinds", x.trees(), 0);
         Check.dueThrow("search() of two kinds", IllegalStateException.class, () -> x.search());
+    }
+
+    /** Nothing of an earlier table, whole or at fault, is left in a later one. */
+    private static void tablesInTurn() {
+        ShortTrees x = new ShortTrees();
+        String[] texts = {"a ??;b ??;c ??;", "a 3333;b 3333;", "a 0;b 1;c 2;", "a ??;b ??;c ??", "a 2;b 1;c 0;", "a 1;"};
+        int[] answers = {3, 2, 3, -114, 3, 1};
+        int[] ofKindA = {15, 8, 1, 1, 4, 2};
+        int[] characters = {2, 4, 1, 1, 1, 1};
+        for (int i = 0; i < texts.length; i++) {
+            Check.due("table() of " + texts[i] + " in turn", Check.table(x, texts[i]), answers[i]);
+            Check.due("states(0, 0) of " + texts[i] + " in turn", x.states(0, 0), ofKindA[i]);
+            int past = characters[i];
+            Check.dueThrow("states(0, " + past + ") of " + texts[i] + " in turn", IndexOutOfBoundsException.class,
+                    () -> x.states(0, past));
+        }
+        Check.dueThrow("states(1, 0) in turn", IndexOutOfBoundsException.class, () -> x.states(1, 0));
     }
 
     private static void states() {
