@@ -32,12 +32,9 @@ public final class TypeTest {
     private static void fullText() {
         ShortTrees x = new ShortTrees();
         StringBuilder text = new StringBuilder();
-        // A table that fills the text to its last place: 5 rows of 32, the braces making up the length.
+        // A table that fills the text to its last place: five rows of 32.
         for (char kind = 'a'; kind <= 'e'; kind++) {
             text.append(kind).append(" {0123}{0123}{0123}{0123}01230;");
-        }
-        while (text.length() < 160) {
-            text.append(';');
         }
         for (int i = 0; i < 160; i++) {
             Check.due("type " + i, x.type(text.charAt(i)), i + 1);
