@@ -3,25 +3,34 @@ import java.util.concurrent.Callable;
 /** Compares answers with those that are due, and ends a test's run. */
 final class Check {
     private static int wrong = 0;
+    private static String sentence = "";
 
     private Check() {
+    }
+
+    /** The document's sentence that the checks from here on hold to: it is told with an answer that is wrong. */
+    static void says(String words) {
+        sentence = "\"" + words + "\" ";
     }
 
     static void due(String call, Object got, Object want) {
         if (!got.equals(want)) {
             wrong++;
-            System.out.println(call + " answered " + got + ", due is " + want);
+            System.out.println(sentence + call + " answered " + got + ", due is " + want);
         }
     }
 
     static void dueThrow(String call, Class<? extends Exception> want, Callable<?> body) {
-        String got;
+        due(call, answer(body), want.getName());
+    }
+
+    /** What a call answers, as text: the exception's name if it throws. */
+    static String answer(Callable<?> body) {
         try {
-            got = String.valueOf(body.call());
+            return String.valueOf(body.call());
         } catch (Exception e) {
-            got = e.getClass().getName();
+            return e.getClass().getName();
         }
-        due(call, got, want.getName());
     }
 
     static void end() {
