@@ -1,6 +1,10 @@
 /** The edges of promises 15 and 16, and of a character's least and most. */
 public final class IndexEdgesTest {
     private static final Class<IndexOutOfBoundsException> INDEX = IndexOutOfBoundsException.class;
+    /** The entry of each of four kinds for one character, and what is the least and the most of it. */
+    private static final String[] ENTRIES = {"0000", "????", "0001", "0011", "0012", "0123", "0?1?", "3333", "0003"};
+    private static final int[] LEAST = {0, 0, 1, 1, 2, 3, 1, 0, 1};
+    private static final int[] MOST = {0, 0, 1, 2, 2, 3, 1, 0, 1};
 
     public static void main(String[] args) {
         consistencyWithoutLength();
@@ -11,7 +15,8 @@ public final class IndexEdgesTest {
         retentionAtMost();
         retentionAtLeast();
         retentionOfNoSuchTree();
-        leastAndMost();
+        leastOfACharacter();
+        mostOfACharacter();
         Check.end();
     }
 
@@ -121,23 +126,36 @@ public final class IndexEdgesTest {
         }
     }
 
-    /** A second character, a against c d and b, sets the scale: least 1, most 2, and one or two changes. */
-    private static void leastAndMost() {
-        Check.says("LEAST of a character: the least number of states that have one in common with every kind's set");
-        String[] entries = {"0000", "????", "0001", "0011", "0012", "0123", "0?1?", "3333", "0003"};
-        int[] least = {0, 0, 1, 1, 2, 3, 1, 0, 1};
-        int[] most = {0, 0, 1, 2, 2, 3, 1, 0, 1};
-        for (int i = 0; i < entries.length; i++) {
-            StringBuilder text = new StringBuilder();
-            for (int kind = 0; kind < 4; kind++) {
-                text.append(Samples.row(kind, entries[i].charAt(kind) + "" + "0011".charAt(kind)));
-            }
-            ShortTrees x = Check.of(text.toString());
+    /** Beside the character stands another, a b against c d, of which the least is 1 and the most 2. */
+    private static ShortTrees withAnother(String entries) {
+        StringBuilder text = new StringBuilder();
+        for (int kind = 0; kind < 4; kind++) {
+            text.append(Samples.row(kind, entries.charAt(kind) + "" + "0011".charAt(kind)));
+        }
+        return Check.of(text.toString());
+    }
+
+    private static void leastOfACharacter() {
+        Check.says("LEAST of a character: the least number of states that have one in common with every kind's set,"
+                + " less 1.");
+        for (int i = 0; i < ENTRIES.length; i++) {
+            ShortTrees x = withAnother(ENTRIES[i]);
             for (int tree = 0; tree < 3; tree++) {
-                int size = x.length(tree);
-                Check.due("consistency(" + tree + ") of " + text, x.consistency(tree), (least[i] + 1.0f) / size);
-                Check.due("retention(" + tree + ") of " + text, x.retention(tree),
-                        (float) (most[i] + 2 - size) / (float) (most[i] + 2 - least[i] - 1));
+                Check.due("consistency(" + tree + ") of " + ENTRIES[i], x.consistency(tree),
+                        (LEAST[i] + 1.0f) / x.length(tree));
+            }
+        }
+    }
+
+    private static void mostOfACharacter() {
+        Check.says("MOST: n less the greatest number of kinds whose sets have one and the same state.");
+        for (int i = 0; i < ENTRIES.length; i++) {
+            ShortTrees x = withAnother(ENTRIES[i]);
+            int most = MOST[i] + 2;
+            int least = LEAST[i] + 1;
+            for (int tree = 0; tree < 3; tree++) {
+                Check.due("retention(" + tree + ") of " + ENTRIES[i], x.retention(tree),
+                        (float) (most - x.length(tree)) / (float) (most - least));
             }
         }
     }

@@ -22,7 +22,7 @@ final class Samples {
         return text.toString();
     }
 
-    /** Every kind has the same entry for each character: all states in turn, going round by kind. */
+    /** Kind k has the state k % 4 alone, for every character. */
     static String inTurn(int kinds, int characters) {
         StringBuilder text = new StringBuilder();
         for (int kind = 0; kind < kinds; kind++) {

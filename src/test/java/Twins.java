@@ -14,7 +14,7 @@ final class Twins {
     /** What an object has, in the order in which it can be asked without spoiling the rest. */
     enum Part { FINDS, WRITING, TABLE, WEIGHTS, TEXT }
 
-    /** Five kinds with three characters: four trees of 15 are the best. */
+    /** Five kinds with three characters: three trees of 15 are the best, with and without the weights. */
     private static final String FIVE = "a 00?;b 011;c 1{01}1;d 10{23};e 1?0;";
     /** A text that still wants something, so that a reading of it tells whether it is all there. */
     private static final String BEGUN = "a 0{12}?;b 321;c";
