@@ -136,7 +136,7 @@ final class PlainTrees {
         return sum;
     }
 
-    int least() {
+    static int least(int[][] table, int[] weights) {
         int sum = 0;
         for (int character = 0; character < weights.length; character++) {
             int fewest = 4;
@@ -152,7 +152,7 @@ final class PlainTrees {
         return sum;
     }
 
-    int most() {
+    static int most(int[][] table, int[] weights) {
         int sum = 0;
         for (int character = 0; character < weights.length; character++) {
             int[] counts = new int[4];

@@ -97,8 +97,8 @@ public final class PlainTreesTest {
             Check.due(of + "changes " + character, x().changes(tree, character), plain.changes(tree, character));
         }
         int length = lengths.get(tree);
-        int least = plain.least();
-        int most = plain.most();
+        int least = PlainTrees.least(plain.table, plain.weights);
+        int most = PlainTrees.most(plain.table, plain.weights);
         Check.due(of + "length", x().length(tree), length);
         Check.due(of + "consistency", x().consistency(tree), length == 0 ? 1.0f : (float) least / length);
         Check.due(of + "retention", x().retention(tree),
